@@ -199,6 +199,13 @@ public final class ClimbsTest {
         x.change(1, 5, 0);
         Check.due("22: tree above", x.ratio(1, 1 | 4 | 16, 0), -4);
         Check.due("22: tree below", x.ratio(1, 1 | 4 | 16, 1), 5);
+        Check.due("22: another tree", x.ratio(1, 2 | 16 | 32, 0), -7);
+        Check.due("22: another tree, below", x.ratio(1, 2 | 16 | 32, 1), 3);
+        Check.due("22: tree of the last ones", x.ratio(1, 8 | 32 | 64, 0), 11);
+        Check.due("22: twins", x.ratio(1, 1 | 4 | 64, 0), Check.L_STATE);
+        Check.due("22: there and back", x.ratio(1, 4 | 8 | 16, 0), Check.L_STATE);
+        Check.due("22: a way that is not", x.ratio(1, 1 | 16 | 128, 0), Check.L_STATE);
+        Check.due("22: the highest bit", x.ratio(1, 1 | 16 | Integer.MIN_VALUE, 0), Check.L_STATE);
         Check.due("22: too few", x.ratio(1, 1 | 4, 0), Check.L_STATE);
         Check.due("22: too many", x.ratio(1, 1 | 4 | 16 | 32, 0), Check.L_STATE);
         Check.due("22: not all joined", x.ratio(1, 1 | 2 | 4, 0), Check.L_STATE);
@@ -212,8 +219,17 @@ public final class ClimbsTest {
         Check.due("22: load below", x.ratio(2, 3, 1), 1);
         Check.due("22: load of one", x.ratio(2, 2, 0), 7);
         Check.due("22: load of one, below", x.ratio(2, 2, 1), 9);
+        Check.due("22: load of the first", x.ratio(2, 1, 0), 3);
+        Check.due("22: load of the first, below", x.ratio(2, 1, 1), 2);
         Check.due("22: load of none", x.ratio(2, 0, 0), Check.L_STATE);
         Check.due("22: no such thing", x.ratio(2, 4, 0), Check.L_STATE);
         Check.due("22: load below 0", x.ratio(2, -1, 0), Check.L_STATE);
+        RoundsPerHour y = new RoundsPerHour();
+        y.places(6);
+        for (int p = 0; p < 6; p++) {
+            y.way(0, 5 - p, (6 - p) % 6, 2, 1);
+        }
+        Check.due("22: a ring of six", y.ratio(0, 63, 0), 2);
+        Check.due("22: a tree of five", y.ratio(1, 62, 1), 1);
     }
 }

@@ -2,6 +2,7 @@
 public final class ImagesTest {
     public static void main(String[] args) {
         images();
+        full();
         counts();
         status();
         Check.end(ImagesTest.class);
@@ -63,6 +64,24 @@ public final class ImagesTest {
         Check.due("36: nothing then", x.tear(), 0);
         Check.due("35: no older one", x.undo(), Check.NONE);
         Check.due("36: the rest stays", x.count(1), 2);
+    }
+
+    private static void full() {
+        RoundsPerHour x = new RoundsPerHour();
+        for (int i = 0; i < 14; i++) {
+            x.way(0, 0, 1, i, i + 1);
+            x.thing(i, i + 1);
+        }
+        x.image();
+        for (int i = 0; i < 14; i++) {
+            x.change(i, 3, 0);
+            x.alter(Math.min(i, 11), 0, 99);
+            x.alter(Math.min(i, 11), 1, 99);
+        }
+        Check.due("35: all ways", x.undo(), 14);
+        Check.due("35: the last way", x.of(13, 3), 13);
+        Check.due("35: the last thing's gain", x.its(11, 0), 11);
+        Check.due("35: the last thing's time", x.its(11, 1), 12);
     }
 
     private static void counts() {

@@ -25,6 +25,7 @@ public final class LanguageTest {
         face();
         String code = withoutCommentsAndTexts(Files.readString(Path.of("src/main/java/RoundsPerHour.java")));
         words(code);
+        lengths(code);
         Check.end(LanguageTest.class);
     }
 
@@ -95,8 +96,26 @@ public final class LanguageTest {
         while (library.find()) {
             Check.due("library " + library.group(), may.contains(library.group()) ? 1 : 0, 1);
         }
-        // What is made in a call would be counted: all rows are made in constructors and initialisers.
+        // What is made in a call would be counted: all rows are made where fields begin, and the sheets in the constructor.
+        int made = 0;
+        for (String line : code.split("\n")) {
+            boolean field = line.matches("\\s+(private )?(static )?final [\\w\\[\\]]+ \\w+ = new .*");
+            made += line.matches(".*\\bnew\\b.*") && !field ? 1 : 0;
+        }
+        Check.due("objects made elsewhere", made, 1);
         Check.due("signs are 1 to 127", code.chars().allMatch(c -> c > 0 && c < 128) ? 1 : 0, 1);
+    }
+
+    // A method ends where its brace closes in the column that it began in.
+    private static void lengths(String code) {
+        String[] lines = code.split("\n", -1);
+        for (int i = 0; i < lines.length; i++) {
+            Matcher m = Pattern.compile("( {4}| {8})(?!(private |abstract |static |final )*class)\\S.*\\) \\{").matcher(lines[i]);
+            if (!m.matches()) continue;
+            int end = i;
+            while (end < lines.length && !lines[end].equals(m.group(1) + "}")) end++;
+            Check.due("as long as may be: " + lines[i].trim(), end - i <= 60 ? 1 : 0, 1);
+        }
     }
 
     private static String withoutCommentsAndTexts(String code) {

@@ -107,6 +107,16 @@ public final class RingsTest {
         Check.due("13: not back", x.lift(0, 4), Check.L_NONE);
         x.change(5, 5, 1);
         Check.due("13: a shut way is not gone", x.lift(4, 0), Check.L_NONE);
+        // Six places in a row, the last way first.
+        RoundsPerHour z = new RoundsPerHour();
+        z.places(6);
+        for (int p = 4; p >= 0; p--) {
+            z.way(0, p, p + 1, 1, 1);
+        }
+        z.way(0, 1, 0, 1, 1);
+        Check.due("13: five ways", z.lift(0, 5), 0);
+        z.change(0, 3, 8);
+        Check.due("13: five ways, the last brings more", z.lift(0, 5), 7);
         // Longest ways, least gains: the numbers are far, but within.
         RoundsPerHour y = new RoundsPerHour();
         y.places(3);
@@ -178,6 +188,13 @@ public final class RingsTest {
         Check.due("15: far below", x.raise(1), -999999992);
         x.change(4, 3, -999999999);
         Check.due("15: no less than that", x.raise(1), -999999999);
+        RoundsPerHour y = new RoundsPerHour();
+        y.way(0, 0, 1, 0, 1);
+        y.way(0, 1, 0, 999999999, 1);
+        y.way(0, 1, 0, 5, 1);
+        Check.due("15: as much as can be", y.raise(2), 999999999);
+        y.change(1, 0, 5);
+        Check.due("15: more than can be", y.raise(2), Check.NONE);
     }
 
     private static void loses() {

@@ -26,8 +26,10 @@ public final class SheetsTest {
         Check.due("29: read", x.read(0, 39), 7);
         Check.due("29: SIZE changes nothing", x.sheet(0, 64, Integer.MIN_VALUE), Check.SIZE);
         Check.due("29: read again", x.read(0, 39), 7);
+        x.write(0, 0, 8);
         Check.due("29: anew", x.sheet(0, 32, 40), 40);
         Check.due("29: all 0", x.read(0, 39), 0);
+        Check.due("29: the first, too", x.read(0, 0), 0);
         x.write(0, 5, 9);
         Check.due("29: shorter", x.sheet(0, 64, 3), 3);
         Check.due("29: longer", x.sheet(0, 64, 6), 6);
@@ -97,6 +99,12 @@ public final class SheetsTest {
         for (int i = 0; i < 6; i++) {
             Check.due("32: as they all were", x.read(0, i), up[i]);
         }
+        Check.due("32: sheet 5", x.copy(0, 0, 5, 0, 1), Check.BEYOND);
+        Check.due("32: to sheet 4", x.copy(0, 0, 4, 0, 1), Check.BEYOND);
+        x.sheet(3, 32, 1);
+        Check.due("32: to the last sheet", x.copy(0, 5, 3, 0, 1), 1);
+        Check.due("32: in the last sheet", x.copy(3, 0, 3, 0, 1), 1);
+        Check.due("32: it came", x.read(3, 0), 14);
         Check.due("32: down", x.copy(0, 2, 0, 0, 4), 4);
         long[] down = {11, 12, 13, 14, 13, 14};
         for (int i = 0; i < 6; i++) {

@@ -103,7 +103,7 @@ public final class TextTest {
         {"way 0 1 shut shut", 13}, {"way 0 1 shut time 5", 13}, {"way 0 1 shut gain 5", 13}, {"way 0 1 closed", 8}, {"way 0 1 shut 1", 13},
         {"way 0 1 loss -5", 13}, {"way 0 1 gain 1000001;#", 13}, {"thing shut", 6}, {"thing 0", 6}, {"thing gain x", 11}, {"thing time 0", 11},
         {"thing time 5 gain 5", 13}, {"thing\tgain 5", 5}, {"thing\n", 5}, {"#", 0}, {"thing #", 6}, {"thing \u00e9", 6}, {"thing \u0000", 6},
-        {"way 0 3;places 4", 6}, {"places 4;way 0 4", 15}, {"things", 0}, {"thinggain", 0}, {"weather 1,weather 2", 9}, {"way 0 1gain5time3shutt", 17},
+        {"way 0 3;places 4", 6}, {"places 4;way 0 4", 15}, {"things", 0}, {"thingz", 0}, {"bhing", 0}, {"vay 0 1", 0}, {"way 0 1 zhut", 8}, {"thinh", 0}, {"thin", 0}, {"thinggain", 0}, {"weather 1,weather 2", 9}, {"way 0 1gain5time3shutt", 17},
         {"thing gain 5:", 12}, {"thing gain /", 11}, {"thing `", 6}, {"thing {", 6}};
 
     private static void faults() {
