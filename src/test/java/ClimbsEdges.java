@@ -52,6 +52,22 @@ final class ClimbsEdges extends Edge {
         };
     }
 
+    // Five WAYS through six places, the last one in two ways: 4999992999 in 4999993, and, just more, 4999993999 in 4999994.
+    private static void near(RoundsPerHour x) {
+        row(0, 999999000, TIME).on(x);
+        x.change(4, 3, 999996999);
+        x.change(4, 4, TIME - 2);
+        x.way(0, 4, 5, 999997999, TIME - 1);
+    }
+
+    // 1 in 999999, and 4000 in 1: products are above 31 bits.
+    private static void far(RoundsPerHour x) {
+        x.way(0, 0, 1, 1, TIME);
+        x.way(0, 0, 1, 4000, 1);
+        x.thing(1, TIME - 1);
+        x.thing(4000, 1);
+    }
+
     private static void treeTold() {
         sentence(19, "Of TREES");
         // WAYS 4 and 5 (3 in 3) are in each; with 0 and 2 it is 89 in 21, with 0 and 3 57 in 16, with 1 and 2 41 in 17,
@@ -65,7 +81,16 @@ final class ClimbsEdges extends Edge {
         told("most places", row(5, GAIN, TIME), (x, what) -> x.tree(what), 15873016, 15873, 31, 1);
         told("least", row(0, -GAIN, 1), (x, what) -> x.tree(what), -GAIN, 1, 31, 1);
         told("most WAYS, most STEPS", ClimbsEdges::stairs, (x, what) -> x.tree(what), 13, 1, 1 << 13, 14);
+        told("just more", ClimbsEdges::near, (x, what) -> x.tree(what), 4999993999L, 4999994, 47, 2);
+        told("far more", ClimbsEdges::far, (x, what) -> x.tree(what), 4000, 1, 2, 2);
         told("0 is 0 by 1", x -> x.way(0, 0, 1, 0, TIME), (x, what) -> x.tree(what), 0, 1, 1, 1);
+        RoundsPerHour one = made(ClimbsEdges::stairs);
+        due("STEPS", one.tree(3), 14);
+        due("STEPS again", one.tree(3), 14);
+        one.change(0, 3, GAIN);
+        due("STEPS since it begins with the BEST one", one.tree(3), 1);
+        one.places(3);
+        due("none since there is another place", one.tree(3), L_NONE);
     }
 
     private static void treeBeyond() {
@@ -105,6 +130,8 @@ final class ClimbsEdges extends Edge {
         told("from the first to the last", row(5, GAIN, TIME), (x, what) -> x.walk(0, 5, what), 15873016, 15873, 31, 1);
         told("from the last but one to the last", row(0, -GAIN, 1), (x, what) -> x.walk(4, 5, what), -GAIN, 1, 16, 1);
         told("most WAYS, most STEPS", ClimbsEdges::stairs, (x, what) -> x.walk(0, 1, what), 13, 1, 1 << 13, 14);
+        told("just more", ClimbsEdges::near, (x, what) -> x.walk(0, 5, what), 4999993999L, 4999994, 47, 2);
+        told("far more", ClimbsEdges::far, (x, what) -> x.walk(0, 1, what), 4000, 1, 2, 2);
         // 1 in 1 from place to place, and 6 in 5 at once.
         Make leap = x -> {
             row(0, 1, 1).on(x);
@@ -115,6 +142,16 @@ final class ClimbsEdges extends Edge {
             leap.on(x);
             x.change(5, 3, 5);
         }, (x, what) -> x.walk(0, 5, what), 1, 1, 31, 1);
+        RoundsPerHour one = made(ClimbsEdges::stairs);
+        due("STEPS", one.walk(0, 1, 3), 14);
+        due("STEPS again", one.walk(0, 1, 3), 14);
+        RoundsPerHour other = made(row(0, 1, 1));
+        due("all", other.walk(0, 5, 2), 31);
+        due("some", other.walk(1, 4, 2), 14);
+        due("others", other.walk(3, 5, 2), 24);
+        other.change(0, 5, 1);
+        due("none since the first one is SHUT", other.walk(0, 5, 2), L_NONE);
+        due("some still", other.walk(1, 5, 2), 30);
     }
 
     private static void walkBeyond() {
@@ -185,12 +222,29 @@ final class ClimbsEdges extends Edge {
                 x.thing(t * time, time - 1);
             }
         }, (x, what) -> x.load(1, what), 11, 1, 1 << 11, 12);
+        told("far more", ClimbsEdges::far, (x, what) -> x.load(1, what), 2000, 1, 2, 2);
+        // All but one bring 1000 by the hour, with BASE; the other one 1 less: in 11999986, or, just better, in 11999987.
+        told("just more", x -> {
+            for (int t = 0; t < 10; t++) {
+                x.thing(999999000, TIME);
+            }
+            x.thing(999996999, TIME - 2);
+            x.thing(999997999, TIME - 1);
+            x.alter(-1, 0, 999999000);
+            x.alter(-1, 1, TIME);
+        }, (x, what) -> x.load(11, what), 11999986999L, 11999987, 1023 + 2048, 2);
         told("least", x -> {
             for (int t = 0; t < 12; t++) {
                 x.thing(-GAIN, 1);
             }
             x.alter(-1, 0, -GAIN);
         }, (x, what) -> x.load(12, what), -GAIN, 1, 4095, 1);
+        RoundsPerHour one = made(Edge::rich);
+        due("STEPS", one.load(2, 3), 2);
+        due("STEPS again", one.load(2, 3), 2);
+        due("of all", one.load(3, 2), 7);
+        due("of two again", one.load(2, 2), 5);
+        due("of one", one.load(1, 2), 1);
     }
 
     private static void loadBeyond() {
@@ -222,6 +276,18 @@ final class ClimbsEdges extends Edge {
         judged("a RING of six", Edge::full, 0, 63, 1, 3);
         // WAYS 2 to 5, 12, 13: the last two bring 22 and 16 in 13 and 15: 39 in 69.
         judged("a RING with the last WAYS", Edge::full, 0, 63 - 3 + (3 << 12), 13, 23);
+        judged("a RING of most", x -> {
+            row(5, GAIN, TIME).on(x);
+            x.way(5, 5, 0, GAIN, TIME);
+        }, 0, 63, 15873016, 15873);
+        judged("a TREE of most", row(5, GAIN, TIME), 1, 31, 15873016, 15873);
+        judged("a LOAD of most", x -> {
+            for (int t = 0; t < 12; t++) {
+                x.thing(GAIN, TIME);
+            }
+            x.alter(-1, 0, GAIN);
+            x.alter(-1, 1, TIME);
+        }, 2, 4095, 1001001, 1001);
         judged("a TREE, not a BEST one", ClimbsEdges::woods, 1, 58, 3, 4);
         judged("a TREE", ClimbsEdges::woods, 1, 53, 89, 21);
         judged("a TREE of one", x -> x.way(0, 1, 0, 6, 4), 1, 1, 3, 2);
@@ -287,6 +353,12 @@ final class ClimbsEdges extends Edge {
         noChoice("through a PLACE twice", rings, 0, 15);
         noChoice("one leads to it", rings, 0, 3 + 16, 12 + 16);
         noChoice("one leads from it", rings, 0, 3 + 128);
+        noChoice("the first one leads to it", x -> {
+            x.places(3);
+            x.way(0, 0, 1, 1, 1);
+            x.way(0, 1, 2, 1, 1);
+            x.way(0, 2, 1, 1, 1);
+        }, 0, 7);
         noChoice("two that are apart", rings, 0, 3 + 96, 12 + 96);
         noChoice("both go there", Edge::full, 0, 1 + 64, 63 + 64);
         noChoice("a TREE and more", ClimbsEdges::woods, 1, 53 + 2, 53 + 8, 63, 53 + 64, 53 + (1 << 31));

@@ -1,3 +1,5 @@
+import java.util.Arrays;
+
 /** Promises 23 to 25 at their edges. */
 final class FractionsEdges extends Edge {
     private static final String NO_SHEET = "BEYOND: no such sheet";
@@ -37,7 +39,7 @@ final class FractionsEdges extends Edge {
     // Sheet 2 has as many numbers as can be, all 1.
     private static void ones(RoundsPerHour x) {
         long[] v = new long[40];
-        java.util.Arrays.fill(v, 1);
+        Arrays.fill(v, 1);
         row(x, 2, 64, v);
     }
 

@@ -1,3 +1,5 @@
+import java.util.List;
+
 /** Promises 34 to 38 at their edges, and how many calls an object is good for. */
 final class ImagesEdges extends Edge {
     private ImagesEdges() { }
@@ -31,7 +33,7 @@ final class ImagesEdges extends Edge {
         x.thing(4, 4);
     }
 
-    private static void same(String what, java.util.List<Long> got, java.util.List<Long> want) {
+    private static void same(String what, List<Long> got, List<Long> want) {
         due(got.equals(want) ? what : what + " " + got + " and not " + want, got.equals(want) ? 1 : 0, 1);
     }
 
@@ -40,7 +42,7 @@ final class ImagesEdges extends Edge {
         Make[] countries = {Edge::bare, Edge::rich, Edge::full};
         for (Make ready : countries) {
             RoundsPerHour x = made(ready);
-            java.util.List<Long> was = country(x);
+            List<Long> was = country(x);
             due("image()", x.image(), 1);
             another(x);
             x.undo();
@@ -105,7 +107,7 @@ final class ImagesEdges extends Edge {
         due("BASE", y.its(-1, 1), 9);
         due("none SHUT", y.count(3), 0);
         due("no second WAY", y.of(1, 0), BEYOND);
-        due("PLACES could be fewer", y.places(2), STATE);
+        due("a WAY ends at place 2", y.places(2), STATE);
         RoundsPerHour z = made(Edge::rich);
         z.image();
         z.weather(5);
@@ -143,7 +145,7 @@ final class ImagesEdges extends Edge {
         sentence(36, "Nothing is kept: 1 if something was, else 0");
         asked("at first", 0, Edge::bare, x -> x.tear());
         RoundsPerHour x = made(Edge::rich);
-        java.util.List<Long> was = country(x);
+        List<Long> was = country(x);
         due("something was", x.tear(), 1);
         due("nothing then", x.tear(), 0);
         same("what is now stays", country(x), was);

@@ -17,14 +17,17 @@ final class RingsEdges extends Edge {
         worthNone();
         worthOver();
         raiseLeast();
+        raiseAgain();
         raiseBeyond();
         raiseNone();
         loseTold();
         loseNone();
         kindTold();
+        kindAgain();
         kindBeyond();
         kindNone();
         seasonTold();
+        seasonAgain();
         seasonNone();
     }
 
@@ -138,6 +141,29 @@ final class RingsEdges extends Edge {
             near(x);
             x.change(6, 5, 1);
         }, x -> x.ringWays());
+        // 1000000000 in 10 against 5 in 4: what is compared is above 32 bits.
+        Make far = x -> {
+            x.places(3);
+            x.way(0, 0, 1, GAIN, 9);
+            x.way(0, 1, 0, 1, 1);
+            x.way(0, 0, 2, 5, 3);
+            x.way(0, 2, 0, 0, 1);
+        };
+        answers("far more", 3, far, x -> x.ringWays());
+        answers("far less", 12, x -> {
+            far.on(x);
+            x.change(0, 3, -GAIN);
+        }, x -> x.ringWays());
+        // What was told of all four is not told of two.
+        RoundsPerHour x = made(y -> {
+            round(1, 1).on(y);
+            round(1, 1).on(y);
+        });
+        due("four", x.ringWays(), 15);
+        x.change(2, 5, 1);
+        due("three, and one that is SHUT since", x.ringWays(), 11);
+        x.change(3, 5, 1);
+        due("two, and two that are SHUT since", x.ringWays(), 3);
     }
 
     private static void ringWaysNone() {
@@ -151,6 +177,12 @@ final class RingsEdges extends Edge {
         int[][] lifts = {{0, 0, 0}, {0, 1, 30}, {0, 3, 10}, {1, 0, -30}, {1, 1, 0}, {1, 3, -20}, {3, 0, -39}, {3, 1, -9}, {3, 3, 0}, {2, 2, 0}, {4, 4, 0}};
         for (int[] v : lifts) {
             asked("lift(" + v[0] + ", " + v[1] + ")", v[2], Edge::rich, x -> x.lift(v[0], v[1]));
+        }
+        // One after the other, and once more.
+        RoundsPerHour one = made(Edge::rich);
+        for (int i = 0; i < 2 * lifts.length; i++) {
+            int[] v = lifts[i % lifts.length];
+            due("again, lift(" + v[0] + ", " + v[1] + ")", one.lift(v[0], v[1]), v[2]);
         }
         // The round's RATIO is 1000000007 by 2; four MIRES lead from it to the last place, each down by 2000010014000126.
         answers("far down", -8000040056000504L, x -> {
@@ -289,6 +321,9 @@ final class RingsEdges extends Edge {
         raised("no less than -3/2", -1, rivals(0, -1, 1, 0, 2), 2);
         raised("no less than 3", 3, rivals(0, 2, 1, 0, 2), 2);
         raised("no less than -3", -3, rivals(0, -2, 1, 0, 2), 2);
+        // As much as the rival, which 29 by 7 and -15 by 11 in parts of two would miss.
+        raised("no less than 29", 29, rivals(0, 29, 6, 0, 6), 2);
+        raised("no less than -15", -15, rivals(0, -15, 10, 0, 10), 2);
         raised("a STAIR", GAIN - 9, rivals(0, GAIN, 1, 5, 1), 2);
         raised("a TOLL", -GAIN + 7, rivals(0, -GAIN, 2, 1, 1), 2);
         raised("SHUT", 10, x -> {
@@ -315,6 +350,28 @@ final class RingsEdges extends Edge {
             x.way(0, 1, 2, 5, 1);
             x.way(0, 2, 1, 5, 1);
         }, 0);
+    }
+
+    private static void raiseAgain() {
+        sentence(15, "The least GAIN (-999999999 to 999999999) of a WAY with which, if it isn't SHUT, it is in a BEST RING (all else as now)");
+        // WAYS 0 and 3 lead there, 1 and 2 (10) back: with 3, which brings 100, and without it.
+        RoundsPerHour x = made(y -> {
+            y.way(0, 0, 1, 0, 1);
+            y.way(0, 1, 0, 7, 1);
+            y.way(0, 1, 0, 10, 1);
+            y.way(0, 0, 1, 100, 1);
+        });
+        due("with another one", x.raise(1), 10);
+        x.change(3, 5, 1);
+        due("that one is SHUT since", x.raise(1), 10);
+        x.change(2, 3, -5);
+        due("the rival brings less since", x.raise(1), -5);
+        x.change(2, 5, 1);
+        due("it is SHUT since", x.raise(1), -GAIN);
+        x.change(0, 5, 1);
+        due("no RING since", x.raise(1), NONE);
+        x.change(0, 5, 0);
+        due("and again", x.raise(1), -GAIN);
     }
 
     private static void raiseBeyond() {
@@ -427,6 +484,8 @@ final class RingsEdges extends Edge {
         asked("STAIR", 5, ofKind(0, 10, 1, 0, 1), x -> x.kind(0));
         // By KIND: 10, 3, -10, 15, -21, 19 in 2, 3, 6, 3, 11, 4.
         asked("WAY, or BRIDGE", 0, ofKind(4, 10, 1, 0, 1), x -> x.kind(0));
+        // 2147 and 2156 in 999999: one product with what is below is above 31 bits.
+        asked("STAIR, far", 5, ofKind(0, 2147, 1, 0, TIME - 1), x -> x.kind(0));
         asked("SHUT", 0, x -> {
             ofKind(0, 10, 1, 0, 1).on(x);
             x.way(3, 0, 1, 100, 1);
@@ -444,6 +503,22 @@ final class RingsEdges extends Edge {
                 x.way(4, w % 2, 1 - w % 2, 100, 1);
             }
         }, x -> x.kind(13));
+    }
+
+    private static void kindAgain() {
+        sentence(17, "The KIND of which a WAY must be, so that RATIO of BEST RINGS is greatest");
+        // What was greatest ahead of a change is no matter behind it.
+        RoundsPerHour x = made(ofKind(0, 10, 1, 0, 1));
+        due("STAIR", x.kind(0), 5);
+        x.change(0, 3, -1000);
+        due("TOLL since", x.kind(0), 1);
+        x.change(0, 4, 10);
+        due("MIRE since", x.kind(0), 4);
+        due("season", x.season(), 5);
+        x.weather(1);
+        x.change(0, 3, 10);
+        x.change(0, 4, 1);
+        due("WAY since", x.kind(0), 0);
     }
 
     private static void kindBeyond() {
@@ -489,6 +564,12 @@ final class RingsEdges extends Edge {
                 stairAndBridge(weather, 1).on(x);
                 x.change(0, 0, 0);
             }, x -> x.season());
+            // From 2147 in 999999 on, by 3: products with what is below are above 31 bits.
+            asked("5, far", 5, x -> {
+                x.weather(weather);
+                x.way(3, 0, 1, 2154, 1);
+                x.way(0, 1, 0, 0, TIME - 2);
+            }, x -> x.season());
             // 29, 20, 29, 20 in 2; 29, 20 in 4.
             asked("0 or 2", 0, x -> {
                 stairAndBridge(weather, 1).on(x);
@@ -497,6 +578,19 @@ final class RingsEdges extends Edge {
             // -90, -95, .. in 2, 3, ..
             asked("5, as it lasts longer", 5, ofKind(now, -90, 1, 0, 1), x -> x.season());
         }
+    }
+
+    private static void seasonAgain() {
+        sentence(18, "The WEATHER in which RATIO of BEST RINGS is greatest");
+        RoundsPerHour x = made(stairAndBridge(0, 1));
+        due("2", x.season(), 2);
+        x.change(0, 0, 2);
+        x.change(0, 3, -90);
+        x.change(1, 0, 0);
+        x.change(1, 3, 0);
+        due("5 since", x.season(), 5);
+        x.change(0, 3, -1);
+        due("0 since", x.season(), 0);
     }
 
     private static void seasonNone() {

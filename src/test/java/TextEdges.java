@@ -412,6 +412,28 @@ final class TextEdges extends Edge {
         fault("thing time", 10);
     }
 
+    // Each WORD with one letter changed, one left out, one more: another one, wherever it stands.
+    private static void otherWords() {
+        String[] texts = {"places 6", "weather 1", "way 0 1", "toll 0 1", "ford 0 1", "bridge 0 1", "mire 0 1", "stair 0 1", "thing",
+            "way 0 1 gain 1", "way 0 1 loss 1", "way 0 1 time 1", "way 0 1 shut", "thing gain 1", "thing loss 1", "thing time 1"};
+        int[] begins = {0, 0, 0, 0, 0, 0, 0, 0, 0, 8, 8, 8, 8, 6, 6, 6};
+        for (int t = 0; t < texts.length; t++) {
+            told(texts[t], 1);
+            int end = begins[t];
+            while (end < texts[t].length() && texts[t].charAt(end) >= 'a') {
+                end++;
+            }
+            for (int i = begins[t]; i < end; i++) {
+                char c = texts[t].charAt(i);
+                fault(texts[t].substring(0, i) + (char) (c + 1) + texts[t].substring(i + 1), begins[t]);
+                fault(texts[t].substring(0, i) + (char) (c - 1) + texts[t].substring(i + 1), begins[t]);
+                fault(texts[t].substring(0, i) + texts[t].substring(i + 1), begins[t]);
+            }
+            fault(texts[t].substring(0, end) + "s" + texts[t].substring(end), begins[t]);
+            fault(texts[t].substring(0, begins[t]) + "a" + texts[t].substring(begins[t]), begins[t]);
+        }
+    }
+
     private static void faults() {
         sentence(0, "FAULT: the place (from 0) of the first byte of the first TOKEN that can't stand there (a NUMBER that isn't as told, another WORD, "
                 + "a byte that begins no TOKEN, the WORD of a 15th WAY, of a 13th THING: its own), or how many bytes there are if it ends too early");
@@ -419,6 +441,7 @@ final class TextEdges extends Edge {
         fault("weather 1;weather 6;weather 7", 18);
         fault("road 0 1", 0);
         fault("thing; road 0 1", 7);
+        otherWords();
         fault("12", 0);
         fault("#", 0);
         fault("thing #", 6);
